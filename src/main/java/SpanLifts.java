@@ -26,8 +26,6 @@ public final class SpanLifts {
     private final State[] states = new State[STATES];
     private int now;
     private int stored;
-    /** Whether flow holds the facts of the present program. */
-    private boolean studied;
     private final Reader reader = new Reader();
     private final Machine machine = new Machine();
     private final Flow flow = new Flow();
@@ -142,7 +140,7 @@ public final class SpanLifts {
         if (!present().program.holds(k) || v < 0 || v >= VARIABLES) {
             return refuse(BAD);
         }
-        study();
+        flow.study(present());
         return flow.setBefore[k] >> v & 1;
     }
 
@@ -212,7 +210,7 @@ public final class SpanLifts {
         }
         now = (now + STATES - 1) % STATES;
         stored--;
-        studied = false;
+        flow.forget();
         return stored;
     }
 
@@ -276,14 +274,7 @@ public final class SpanLifts {
     private void advance() {
         now = (now + 1) % STATES;
         stored = Math.min(stored + 1, MOST_STORED);
-        studied = false;
-    }
-
-    private void study() {
-        if (!studied) {
-            flow.study(present());
-            studied = true;
-        }
+        flow.forget();
     }
 
     /** Examines a span; false if there is no such span. */
@@ -291,7 +282,7 @@ public final class SpanLifts {
         if (!present().program.isSpan(i, j)) {
             return false;
         }
-        study();
+        flow.study(present());
         flow.examine(chosen, i, j);
         return true;
     }
@@ -392,10 +383,6 @@ public final class SpanLifts {
             symbols[symbolCount] = symbol;
             symbolCount++;
             length[count - 1]++;
-            int v = variableOf(symbol);
-            if (v != NONE) {
-                uses[count - 1] |= 1 << v;
-            }
         }
 
         /** Adds a copy of a statement of another code, with its variables renamed. */
@@ -412,7 +399,6 @@ public final class SpanLifts {
                 int v = variableOf(symbol);
                 put(v == NONE ? symbol : 'a' + renamed(names, v));
             }
-            // The outputs of a call are symbols of it, too, but are not read.
             uses[copy] = renamedSet(names, other.uses[k]);
             return copy;
         }
@@ -528,8 +514,9 @@ public final class SpanLifts {
             int rest = set;
             int found = 0;
             for (int k = first; k <= last; k++) {
+                int changed = kind[k] == ASSIGN ? name[k] : NONE;
                 for (int i = 0; i <= length[k]; i++) {
-                    int v = i < length[k] ? variableOf(symbols[from[k] + i]) : property(k, 5);
+                    int v = i < length[k] ? variableOf(symbols[from[k] + i]) : changed;
                     if (v == NONE || !has(rest, v)) {
                         continue;
                     }
@@ -834,7 +821,7 @@ public final class SpanLifts {
                     return false;
                 }
             }
-            if (!jumps && !readExpression()) {
+            if (!jumps && !readExpression(k)) {
                 return false;
             }
             if (kind != IF && kind != LOOP) {
@@ -848,16 +835,17 @@ public final class SpanLifts {
             return open != NONE && (code.kind[open] == LOOP || code.loopAround(open, 0) != NONE);
         }
 
-        private boolean readExpression() {
+        private boolean readExpression(int k) {
             int missing = 1;
             for (int n = 0; n < MOST_SYMBOLS && missing > 0; n++) {
                 int c = look();
-                if (isOperator(c)) {
-                    missing++;
-                } else if (isDigit(c) || variableOf(c) != NONE) {
-                    missing--;
-                } else {
+                int v = variableOf(c);
+                if (!isOperator(c) && !isDigit(c) && v == NONE) {
                     return false;
+                }
+                missing += isOperator(c) ? 1 : -1;
+                if (v != NONE) {
+                    code.uses[k] |= 1 << v;
                 }
                 code.put(c);
                 at++;
@@ -1025,7 +1013,7 @@ public final class SpanLifts {
         }
 
         private int valueOf(int v, Frame frame) {
-            if (v < 0 || v >= VARIABLES || !has(frame.set, v)) {
+            if (v < 0 || v >= VARIABLES || (frame.set >> v & 1) == 0) {
                 failure = NOT_SET;
                 return 0;
             }
@@ -1067,6 +1055,7 @@ public final class SpanLifts {
     /** The data-flow analysis of a program. */
     private static final class Flow {
         private State state;
+        private boolean known;
         /** For each statement the variables that some path from it on reads before it sets them. */
         final int[] liveBefore = new int[MOST_STATEMENTS];
         /** For each statement the variables that each path to it sets. */
@@ -1075,8 +1064,18 @@ public final class SpanLifts {
         /** For each exit the variables that each path to it sets, UNREACHED if there is no path. */
         private final int[] setAt = new int[EXIT_ROW];
 
-        void study(State ofState) {
-            state = ofState;
+        /** To be called when the program is another one. */
+        void forget() {
+            known = false;
+        }
+
+        /** Finds the facts of a program, if they are not known yet. */
+        void study(State present) {
+            if (known) {
+                return;
+            }
+            known = true;
+            state = present;
             int last = state.program.count - 1;
             if (last >= 0) {
                 findLive(0, last, liveBefore);
@@ -1180,10 +1179,12 @@ public final class SpanLifts {
                 live[k] = 0;
             }
             boolean changed = true;
-            // Each pass but the last one adds a variable to a statement.
+            // Each pass but the last one adds a variable to a statement. Passes backwards carry facts out of nested
+            // loops, passes forwards into them, so that few are needed.
             for (int n = 0; n <= MOST_STATEMENTS * VARIABLES && changed; n++) {
                 changed = false;
-                for (int k = last; k >= first; k--) {
+                for (int i = first; i <= last; i++) {
+                    int k = n % 2 == 0 ? last - (i - first) : i;
                     int found = liveAt(k, first, last, live);
                     changed |= found != live[k];
                     live[k] = found;
