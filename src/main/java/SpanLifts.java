@@ -487,7 +487,7 @@ public final class SpanLifts {
             return -BY_END;
         }
 
-        /** Where a run goes on when statement k is left by an exit: a statement from first to last, or minus the exit by which it leaves these. */
+        /** Where a run goes on when statement k is left by an exit; minus the exit by which it leaves first to last, if it does. */
         int target(int k, int exit, int first, int last) {
             if (exit == BY_END) {
                 return behind(k, first, last);

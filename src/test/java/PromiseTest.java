@@ -252,6 +252,13 @@ public final class PromiseTest {
         due("steps in the method", z.ran(1, 0), 3);
         due("runs", z.runs(1, 0), 0);
         due("outputs of the call", z.ran(4, 0), 11);
+        SpanLifts u = of("*a{?b{!;}c=1;#c;a=0;}");
+        due("lifts", u.lifts(1, 3, 0), 1);
+        due("runs", u.runs(1, 1), 0);
+        due("an output that the method did not set", u.ran(4, 0), 3);
+        due("runs", u.runs(1, 0), 0);
+        due("an output that the method set", u.ran(4, 0), 7);
+        due("no third print", u.ran(3, 1), 0);
         SpanLifts r = of("c=a;<c;");
         due("lifts", r.lifts(0, 1, 0), 1);
         due("runs", r.runs(7, 0), 1);
@@ -291,6 +298,11 @@ public final class PromiseTest {
         // a variable comes around the loop
         spanDue(of("c=0;*a{#c;c=+c1;}"), 3, 3, 1, 4, 4, 0);
         spanDue(of("*a{c=b;#c;}"), 1, 1, 1, 2, 4, 0);
+        // the same when the loop is statement 0
+        spanDue(of("*a{#+ab;b=-b1;}"), 2, 2, 1, 2, 2, 0);
+        spanDue(of("*a{#b;b=1;c=2;}"), 2, 2, 1, 0, 2, 0);
+        spanDue(of("*a{#b;b=1;?a{}{<1;}}"), 2, 2, 1, 0, 2, 0);
+        spanDue(of("*a{#b;b=1;?a{<1;}}"), 2, 2, 1, 0, 2, 0);
         // reasons: 2 before 3
         spanDue(of("#+c+d+e+fg;"), 0, 0, 1, 124, 0, 2);
         spanDue(of("#+c+d+ef;"), 0, 0, 1, 60, 0, 3);
@@ -404,6 +416,8 @@ public final class PromiseTest {
         due("two empty else blocks", of("?a{#1;}{}?b{#1;}{}").alike(0, 0, 0, 0), 1);
         due("then and else", of("?a{#1;}{}?a{}{#1;}").alike(0, 0, 0, 0), 0);
         due("inside and behind", of("?a{#1;}#1;?a{#1;#1;}").alike(0, 2, 0, 0), 0);
+        due("nested otherwise", of("?a{}?a{#1;}#1;?a{?a{}}#1;#1;").alike(0, 3, 0, 0), 0);
+        due("nested otherwise", of("?a{}?a{#1;}#1;?a{?a{}}#1;#1;").alike(4, 7, 0, 0), 0);
         due("in an else block", of("#a;?a{}{#b;}").alike(0, 0, 1, 0), 2);
         due("no overlap", of("#1;#1;#1;#1;#1;").alike(1, 2, 0, 0), 1);
         due("no overlap", of("#1;#1;#1;#1;#1;").alike(1, 2, 1, 0), 3);
