@@ -259,6 +259,10 @@ public final class PromiseTest {
         due("runs", u.runs(1, 0), 0);
         due("an output that the method set", u.ran(4, 0), 7);
         due("no third print", u.ran(3, 1), 0);
+        SpanLifts w = of("*b{?b{!;}a=1;#a;}*b{?b{!;}c=1;#c;}");
+        due("lifts", w.lifts(1, 3, 1), 2);
+        due("runs", w.runs(1, 1), 0);
+        due("an output that the method did not set", w.ran(4, 0), 3);
         SpanLifts r = of("c=a;<c;");
         due("lifts", r.lifts(0, 1, 0), 1);
         due("runs", r.runs(7, 0), 1);
@@ -360,6 +364,10 @@ public final class PromiseTest {
         due("told(0)", x.told(0), exits.length + 3);
         SpanLifts y = of("<a;#a;");
         due("nothing is live at a return", y.live(0, 0, 8, 0), 0);
+        SpanLifts w = of("#1;#b;");
+        due("b", w.live(0, 0, 1, 1), 1);
+        due("reads()", read(w, "#1;*a{}"), 2);
+        due("b in another program", w.live(0, 0, 1, 1), 0);
         // a call sets for an exit only what each path to it sets
         SpanLifts z = of("*a{c=0;d=0;?b{!;}c=1;d=1;#+cd;}#c;");
         due("lifts", z.lifts(3, 6, 0), 1);
@@ -418,6 +426,8 @@ public final class PromiseTest {
         due("inside and behind", of("?a{#1;}#1;?a{#1;#1;}").alike(0, 2, 0, 0), 0);
         due("nested otherwise", of("?a{}?a{#1;}#1;?a{?a{}}#1;#1;").alike(0, 3, 0, 0), 0);
         due("nested otherwise", of("?a{}?a{#1;}#1;?a{?a{}}#1;#1;").alike(4, 7, 0, 0), 0);
+        due("not across the end of a block", of("#1;#1;?a{#1;}#1;").alike(0, 1, 0, 0), 0);
+        due("not into the else block", of("#1;#1;?a{#1;}{#1;}").alike(0, 1, 0, 0), 0);
         due("in an else block", of("#a;?a{}{#b;}").alike(0, 0, 1, 0), 2);
         due("no overlap", of("#1;#1;#1;#1;#1;").alike(1, 2, 0, 0), 1);
         due("no overlap", of("#1;#1;#1;#1;#1;").alike(1, 2, 1, 0), 3);
