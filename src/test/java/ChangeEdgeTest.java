@@ -81,14 +81,14 @@ public final class ChangeEdgeTest {
         Edges.due("a public constructor", Modifier.isPublic(constructors[0].getModifiers()) ? 1 : 0, 1);
 
         says("public static final int NONE = -1, BAD = -2, NO = -3, FULL = -4;");
-        Edges.due("NONE", SpanLifts.NONE, -1);
-        Edges.due("BAD", SpanLifts.BAD, -2);
-        Edges.due("NO", SpanLifts.NO, -3);
-        Edges.due("FULL", SpanLifts.FULL, -4);
+        String[] constants = {"NONE", "BAD", "NO", "FULL"};
         for (Field field : c.getDeclaredFields()) {
-            boolean constant = Arrays.asList("NONE", "BAD", "NO", "FULL").contains(field.getName());
+            boolean constant = Arrays.asList(constants).contains(field.getName());
             int wanted = constant ? Modifier.PUBLIC | Modifier.STATIC | Modifier.FINAL : Modifier.PRIVATE;
             Edges.due("modifiers of " + field, field.getModifiers() & (wanted | Modifier.PUBLIC | Modifier.PROTECTED), wanted);
+        }
+        for (int i = 0; i < constants.length; i++) {
+            Edges.due(constants[i], constant(constants[i]), -1 - i);
         }
 
         says("An object is used for at most 512 calls after it has been made; what later calls answer is free.");
@@ -105,11 +105,32 @@ public final class ChangeEdgeTest {
             changes.due("reads", 1).due("lifts 0 0 1", 1).due("settles 0", 1);
         }
         changes.due("told 6", 6);
+        String[] cycle = {"lifts 0 0 1", "lifts 1 1 0", "settles 0", "lifts 0 0 0", "settles 1", "settles 0", "reads"};
+        String[] after = new String[cycle.length];
+        for (int turn = 0; turn <= 9; turn++) {
+            for (int i = 0; i < cycle.length; i++) {
+                Probe x = Probe.of("c=-ab;#+c1;d=-ba;?d{#1;}{}#+cd;");
+                for (int n = 0; n < turn * cycle.length + i + 1; n++) {
+                    x.answer(cycle[n % cycle.length]);
+                }
+                after[i] = turn == 0 ? shape(x) : after[i];
+                same("turn " + turn + " of " + cycle[i], shape(x), after[i]);
+            }
+        }
         Probe runs = Probe.of("*1{#a;}");
         for (int n = 10; n <= 511; n++) {
             runs.due("runs 1 2", 4);
         }
         runs.due("ran 2 0", 200);
+    }
+
+    /** A constant as the class has it now, and not as it was when this test was compiled; 0 if there is none. */
+    private static int constant(String name) {
+        try {
+            return SpanLifts.class.getField(name).getInt(null);
+        } catch (ReflectiveOperationException missing) {
+            return 0;
+        }
     }
 
     private static void extracting() {
@@ -125,7 +146,7 @@ public final class ChangeEdgeTest {
         Probe most = Probe.of("c=a;d=b;e=+a+b+cd;f=e;g=f;#+e+fg;").due("lifts 2 4 0", 1).signs(2, "abcd>efg");
         most.listed("formal 0 0", "abcd").listed("formal 0 1", "efg").dues("method 0", 1, 4, 3, 3, 1, 0);
         Probe all = Probe.of(times("#1;", 40)).due("lifts 0 39 0", 1).due("told 4", 1).dues("method 0", 1, 0, 0, 40, 1, 0);
-        all.due("runs 0 0", 0).due("ran 2 0", 40);
+        all.due("runs 0 0", 0).due("ran 2 0", 40).listed("formal 0 0", "").listed("formal 0 1", "");
 
         says("A\nspan that is alike is replaced by a call with its own inputs and outputs.");
         Probe y = Probe.of("c=-ab;d=*cc;#d;?a{e=-ba;f=*ee;#f;}").due("lifts 0 1 1", 2).signs(0, "ab>d").signs(3, "ba>f");
@@ -148,6 +169,8 @@ public final class ChangeEdgeTest {
             same(programs[i], shape(z), before);
             z.due("alike " + spans[i] + " 0 0", likes);
         }
+        Probe renamed = Probe.of("#a;#b;#1;").due("lifts 0 0 1", 2).due("lifts 2 2 0", 1).due("runs 4 5", 0).due("ran 3 0", 4).due("ran 3 1", 5);
+        renamed.due("settles 1", 1).due("settles 0", 2).signs(0, "a").signs(1, "b");
         for (int m = 0; m < 3; m++) {
             Probe z = Probe.of("#1;#2;#2;#3;").due("lifts 0 0 0", 1).due("lifts 1 1 1", 2).due("lifts 3 3 0", 1);
             z.due("settles " + m, m == 1 ? 2 : 1).due("told 5", 2).due("method 2 0", BAD).due("settles 2", BAD);

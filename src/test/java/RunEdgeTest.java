@@ -102,6 +102,11 @@ public final class RunEdgeTest {
         }
         run("?a{#1;}{#2;}?a{#3;}?a{}{#4;}", 0, 0, END, 0, 5, 3, 2, 4);
         run("?a{}{}?a{}#5;", 0, 0, END, 0, 3, 3, 5);
+        run("?a{?b{#1;}}{#2;}", 1, 0, END, 0, 2, 3);
+        run("?a{?b{#1;}}{#2;}", 0, 0, END, 0, 2, 3, 2);
+        run("?a{}{?b{#1;}}#2;", 0, 0, END, 0, 3, 3, 2);
+        run("*a{a=-a1;?b{#1;}}#9;", 2, 0, END, 0, 8, 3, 9);
+        run("#8;*a{a=-a1;?b{}{}}#9;", 1, 1, END, 0, 6, 3, 8, 9);
 
         says("Loop: as long as the expression is not 0, its block is\nexecuted.");
         run("*a{#a;a=-a1;}#9;", 0, 0, END, 0, 2, 3, 9);
@@ -110,6 +115,9 @@ public final class RunEdgeTest {
         run("*a{#a;a=+a1;}#9;", -2, 0, END, 0, 8, 3, -2, -1, 9);
         run("*a{a=0;}", MIN, 0, END, 0, 3, 3);
         run("*0{}*0{#1;}#2;", 0, 0, END, 0, 3, 3, 2);
+        run("*1{}#1;", 0, 0, TOO_LONG, 0, 400, 3);
+        run("*a{a=-a1;b=2;*b{b=-b1;}}#9;", 2, 0, END, 0, 18, 3, 9);
+        run("?a{*b{b=0;}}{#7;}#9;", 1, 1, END, 0, 5, 3, 9);
 
         says("Break leaves the innermost loop around it, continue goes to the expression of this loop, return ends the run"
             + " with a value.");
@@ -200,6 +208,8 @@ public final class RunEdgeTest {
         Probe maybe = Probe.of("*a{?b{!;}c=1;#c;a=0;}").due("lifts 1 3 0", 1);
         run(maybe, 1, 1, END, 0, 3, 3);
         run(maybe, 1, 0, END, 0, 6, 7, 1);
+        Probe neither = Probe.of("*b{?b{!;}a=1;#a;}*b{?b{!;}c=1;#c;}").due("lifts 1 3 1", 2);
+        run(neither, 1, 1, END, 0, 6, 3);
         Probe kept = Probe.of("?b{a=5;}#a;").due("lifts 0 0 0", 1);
         run(kept, 8, 0, END, 0, 2, 3, 8);
         run(kept, 8, 1, END, 0, 3, 3, 5);

@@ -115,6 +115,10 @@ public final class SpanEdgeTest {
         // An output that only some paths in the method set is an input of it, and so it is always set.
         Probe z = Probe.of("c=1;?b{c=2;}#c;").due("lifts 1 1 0", 1).signs(1, "bc>c");
         z.due("sure 2 2", 1).due("span 1 2 1", 6).due("live 0 0 1 2", 1);
+        // The same when there are other methods, and beside assignments to the variables with their numbers.
+        Probe others = Probe.of("c=1;#c;#1;").due("lifts 0 0 0", 1).due("lifts 2 2 0", 1).due("sure 1 2", 1).due("span 1 1 3", 0);
+        others.takes("a=1;b=2;c=3;#+a+bc;#1;#2;#3;", 7).due("lifts 4 4 0", 1).due("lifts 5 5 0", 1).due("lifts 6 6 0", 1);
+        others.dues("span 0 2", 1, 0, 7, 0).due("sure 3 2", 1).due("live 0 0 1 1", 0).due("live 2 2 1 1", 1);
         Probe ended = Probe.of("#1;?a{<b;}{<c;}#d;").due("span 1 1 3", 3);
         ended.takes("#1;?a{<b;}{<1;}#d;", 5).due("lifts 1 1 0", 1);
         alive(ended, "0 0 1", "ab");
@@ -176,6 +180,20 @@ public final class SpanEdgeTest {
         alive(Probe.of("#1;<1;#c;"), "0 0 1", "");
         alive(Probe.of("*a{#1;#b;b=1;}"), "3 3 1", "ab");
         alive(Probe.of("*a{#1;b=1;#b;}"), "3 3 1", "a");
+        alive(Probe.of("*a{#1;#b;}"), "1 1 1", "ab");
+        alive(Probe.of("*a{#1;?b{}{<1;}}"), "1 1 1", "ab");
+        alive(Probe.of("*a{#1;?b{<1;}}"), "1 1 1", "ab");
+        alive(Probe.of("*a{#1;*b{}}"), "1 1 1", "ab");
+        alive(Probe.of("#1;*a{?b{}{<1;}}#c;"), "0 0 1", "abc");
+        Probe later = Probe.of("*a{#1;}#h;");
+        alive(later, "1 1 1", "ah");
+        alive(later.takes("*a{#1;}#1;", 3), "1 1 1", "a");
+        alive(later.takes("#1;#h;", 2), "0 0 1", "h");
+        alive(later.takes("#1;*a{}", 2), "0 0 1", "a");
+        alive(later.takes("#1;*a{#1;}#h;", 4), "0 0 1", "ah");
+        alive(later.takes("#1;*a{#1;}#1;", 4), "0 0 1", "a");
+        alive(Probe.of("#1;?a{}{<1;}#c;"), "0 0 1", "ac");
+        alive(Probe.of("#1;?a{<1;}{}#c;"), "0 0 1", "ac");
     }
 
     private static void inputsAndOutputs() {
@@ -185,6 +203,9 @@ public final class SpanEdgeTest {
         outputs("c=1;d=1;#c;", "1 1", "");
         outputs("c=1;d=1;#c;", "0 2", "");
         outputs("c=1;<c;", "0 1", "");
+        for (char c = 'a'; c <= 'h'; c++) {
+            outputs(c + "=1;#1;", "0 0", "");
+        }
         outputs("c=1;c=2;#c;", "0 0", "");
         outputs("e=0;*a{!;e=1;}#e;", "1 1", "e");
         outputs("e=0;?a{<1;e=1;}#e;", "1 1", "e");
@@ -216,6 +237,10 @@ public final class SpanEdgeTest {
         inputs("*a{c=1;}#c;", "0 0", "ac");
         inputs("e=0;*a{!;e=1;}#e;", "1 1", "ae");
         inputs("e=0;*a{!;e=1;}", "1 1", "a");
+        inputs("?a{}c=1;#c;", "0 1", "a");
+        inputs("?a{}{}c=1;#c;", "0 1", "a");
+        inputs("*a{?b{}}c=1;#c;", "0 2", "ab");
+        inputs("*a{*b{}}c=1;#c;", "0 2", "ab");
         // c is not set on the way to the break, where it is live in the first program only
         inputs("c=0;*a{?b{!;}c=1;#c;}#c;", "2 4", "bc");
         inputs("c=0;*a{?b{!;}c=1;#c;}", "2 4", "b");
@@ -231,6 +256,7 @@ public final class SpanEdgeTest {
             + "variable; in a call the inputs come before the outputs).");
         inputs("e=1;f=1;g=1;h=1;?h{#g;}{#f;}#e;", "4 7", "hgfe");
         inputs("#+ba;#a;", "0 1", "ba");
+        inputs("c=1;#b;#c;#a;", "1 3", "bca");
         inputs("#-bb;#-ab;", "0 1", "ba");
         inputs("d=0;c=0;?a{c=d;}#+cd;", "2 2", "adc");
         inputs("c=0;d=0;?a{d=c;c=1;}{#b;}#+cd;", "2 2", "acdb");
@@ -273,6 +299,7 @@ public final class SpanEdgeTest {
         barred("*a{c=1;#c;}", "2 2", 0);
         barred("*a{#c;c=1;}", "1 1", 3);
         barred("?a{c=1;}#c;", "0 0", 3);
+        barred("c=c;#c;", "0 1", 3);
         barred("c=2;?a{c=1;}#c;", "1 1", 0);
         barred("<1;#c;", "1 1", 0);
         barred("*1{!;#c;}", "2 2", 0);
@@ -387,6 +414,8 @@ public final class SpanEdgeTest {
         alike("?a{}?a{#1;}#1;?b{?b{}}#1;#1;", "0 3");
         alike("#1;#1;?a{#1;}{#1;}#1;", "0 1");
         alike("#1;#1;?a{}{#1;#1;}", "0 1", 3);
+        alike("*a{#1;#1;?b{#1;}#1;}", "1 2");
+        alike("?a{#1;}{}?b{}{#1;}", "0 0");
         alike("#1;?a{#1;}{#1;}*b{#1;}", "0 0", 2, 3, 5);
         alike("#+ab;#+ba;#+aa;#+bb;#+a1;#-ab;#*ab;#+ab;", "0 0", 1, 7);
         alike("#+aa;#+bb;#+ab;", "0 0", 1);
@@ -406,6 +435,8 @@ public final class SpanEdgeTest {
         alike("?a{#1;}{}?b{#1;}{}", "0 0", 2);
         alike("?a{}?b{}{}?b{}", "0 0", 2);
         alike("*a{?a{}}*b{?b{}{}}*b{?b{}}", "0 0", 4);
+        Probe y = Probe.of("?a{}?b{}{}?b{}#1;").due("lifts 3 3 0", 1).due("alike 0 0 0 0", 1).due("alike 0 0 1 0", 2);
+        y.due("settles 0", 1).due("alike 0 0 0 0", 1).due("lifts 1 1 0", 1).due("settles 0", 1).due("alike 1 1 0 0", 0);
 
         says("if it is not barred (the first span may be);");
         alike("#a;#c;#b;", "0 0", 2);
@@ -442,6 +473,8 @@ public final class SpanEdgeTest {
         alike("?a{?a{#a;}}?b{#b;}", "1 1", 3);
         alike("#b;?a{#a;}#b;", "2 2", 0, 3);
         alike(Edges.times("#1;", 40), "20 20", numbersBut20());
+        alike(Edges.times("#1;", 38) + "*1{#1;}", "0 9", 10, 20);
+        alike(Edges.times("#1;", 38) + "*1{#1;}", "0 1", 2, 4, 6, 8, 10, 12, 14, 16, 18, 20, 22, 24, 26, 28, 30, 32, 34, 36);
 
         says("`what`: 0: how many are taken; 1: the first statement of the one with index k, NONE if there are not so many; 2: the"
             + " variable that replaces variable k in the first one of them, NONE if the span does not contain variable k,"

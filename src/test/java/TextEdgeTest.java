@@ -273,6 +273,17 @@ public final class TextEdgeTest {
         Probe x = new Probe().typed("#1;#2;").due("told 4", 0).due("reads", 2).due("told 4", 2).due("told 3", 6);
         x.due("reads", 2).due("type '#'", 7).due("told 4", 2).due("reads", -10 - 7).due("told 3", 7).due("clear", 7);
 
+        Probe again = new Probe().typed(times("#+a+b+cd;", 17));
+        for (int n = 1; n <= 20; n++) {
+            again.due("reads", 17);
+        }
+        again.signs(0, "+a+b+cd").signs(16, "+a+b+cd").due("told 3", 153);
+        Probe other = new Probe();
+        for (int n = 1; n <= 10; n++) {
+            other.takes("?a{*b{#1;}}{#2;}", 4).due("statement 0 2", 3).due("statement 1 2", 1).due("statement 3 3", 0).signs(3, "2");
+            other.takes("#1;c=2;#3;", 3).due("statement 0 2", 0).due("statement 1 2", 0).due("statement 2 3", 2).signs(1, "2");
+        }
+
         says("There are no methods then.");
         Probe.of("#1;#2;").due("lifts 0 0 0", 1).due("lifts 1 1 0", 1).due("told 5", 2).due("reads", 2).due("told 5", 0)
             .due("method 0 0", BAD).due("settles 0", BAD).due("statement 0 6", NONE).due("back", 3).due("told 5", 2);
