@@ -452,6 +452,11 @@ public final class ChangeEdgeTest {
         says("It starts with h = 2251, and for each number v, in the order below, sets h = 31 * h + v in long arithmetic, which wraps.");
         new Probe().due("digest", sum(0, 0, 0, 0, 0, 0, 0)).due("digest", 2251L * 31 * 31 * 31 * 31 * 31 * 31 * 31).dues("told", 0, 0, 0, 0, 0, 0, 0);
         Probe.of("#1;").due("digest", sum(0, 0, 0, 3, 1, 0, 1, 1, -1, 0, 0, 0, -1, -1, '1')).due("told 6", 1);
+        Probe refused = new Probe();
+        for (int n = 1; n <= 300; n++) {
+            refused.due("told 7", BAD);
+        }
+        refused.due("digest", sum(300, 0, 0, 0, 0, 0, 0));
 
         says("The numbers are: told(0) to told(6); for each statement of the program statement() for 0 to 6, and then its symbols as returned by"
             + " sign(); for each method method() for 0 to\n5.");

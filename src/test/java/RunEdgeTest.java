@@ -53,6 +53,10 @@ public final class RunEdgeTest {
         value("*aa", 65536, 0, 0);
         value("*ab", MIN, -1, MIN);
         value("-0a", MIN, 0, MIN);
+        value("+ab", 0, 0, 0);
+        value("-ab", 0, 0, 0);
+        value("*ab", 0, 0, 0);
+        value("*ab", -3, 0, 0);
         run("c=+ab;#c;d=*cc;#d;", MAX, MAX, END, 0, 4, 15, -2, 4);
 
         says("At first only a and b are set.");

@@ -266,6 +266,9 @@ public final class TextEdgeTest {
             z.due("method " + m + " 0", BAD).due("lifts " + m + " " + m + " 0", 1).due("method " + m + " 0", 1);
         }
         z.due("lifts 3 3 0", FULL).due("told 5", 3).due("method 3 0", BAD).due("reads", 4).due("told 5", 0).due("method 0 0", BAD);
+        for (int n = 1; n <= 8; n++) {
+            z.due("lifts 0 0 0", 1).due("lifts 1 1 0", 1).due("told 5", 2).due("reads", 4).due("told 5", 0);
+        }
     }
 
     private static void reading() {
